@@ -107,6 +107,10 @@ public final class DescriptionTest {
         error("board;", 1, 5, 0);
         error("board turn", 1, 6, 0);
         error("boar 4", 1, 0, 0);
+        error("hoard 4", 1, 0, 0);
+        error("board 4 burn", 1, 8, 0);
+        error("board 4;bard 1 1", 1, 8, 1);
+        error("board 4;card 1 pack 1 1", 1, 15, 1);
         error(" boards 4", 1, 1, 0);
         error("4", 1, 0, 0);
         error("card 1 1", 1, 0, 0);
@@ -141,6 +145,8 @@ public final class DescriptionTest {
         error("board 4;service", 1, 15, 1);
         error("board 4;service ;", 1, 16, 1);
         error("board 4;service ()", 1, 17, 1);
+        error("board 4;service 1 ()2", 1, 19, 1);
+        error("board 4;service (1 ()2)2", 1, 20, 1);
         error("board 4;service (1", 1, 18, 1);
         error("board 4;service (1;", 1, 18, 1);
         error("board 4;service (1)", 1, 19, 1);

@@ -258,6 +258,14 @@ public final class PromisesTest {
             hang(0) => 1
             place(0, 0, 2, 1) => 119
             """);
+        Script.run("16 holes: a row that lacks its first card alone", """
+            load board 1; card 1 1; card 0 2; service 100 => 1
+            hang(0) => 3
+            lose(0, 1) => 1
+            holes() => 1
+            place(0, 0, 0, 0) => -1
+            place(0, 0, 1, 0) => 0
+            """);
     }
 
     private static void freeAndMost() {
@@ -350,6 +358,13 @@ public final class PromisesTest {
             load board 1 turn; card 5 back 6 3; service 569 => 1
             would(0, 4) => 1
             would(0, 5) => 2
+            """);
+        Script.run("20 would, 27 wouldFall: the borrowed card with the lowest number", """
+            load board 1; friend 1 2 0 0 0 0 0 0 0 0 0; card 1 1; service 100 => 1
+            borrow(0, 0, 2) => 0
+            would(0, 6) => 2
+            hang(0) => 3
+            wouldFall() => 2
             """);
     }
 
@@ -559,6 +574,20 @@ public final class PromisesTest {
             place(0, 0, 1, 1) => 1
             place(0, 0, 2, 1) => 2
             """);
+        Script.run("29 hang: a card that could not be spared ahead is the one that makes a lower card free", """
+            load board 1 turn; card 6 1; card 1 back 6 1; card 1 1; service 169 => 1
+            hang(0) => 3
+            place(0, 0, 0, 1) => 2
+            place(0, 0, 1, 1) => 0
+            place(0, 0, 2, 1) => 1
+            place(0, 0, 2, 2) => 3
+            """);
+        Script.run("29 hang: a card that would show a 0 is free for the digit ahead", """
+            load board 1; card 1 back 0 1; card 0 1; card 1 1; service 10 => 1
+            hang(0) => 2
+            place(0, 0, 1, 1) => 0
+            place(0, 0, 2, 1) => 1
+            """);
     }
 
     private static void work() {
@@ -705,6 +734,20 @@ public final class PromisesTest {
             lends(0, 1) => 5
             size(11) => 4
             size(14) => 7
+            """);
+        Script.run("33 giveBack, 35 lose: the very last place comes down first", """
+            load board 6 6 6; card 5 16; friend 1 0 0 0 0 0 2 0 0 0 0; service (5) 6 => 1
+            borrow(0, 5, 2) => 0
+            hang(0) => 18
+            place(2, 5, 2, 1) => 105
+            lose(0, 1) => 1
+            place(2, 3, 2, 0) => -1
+            giveBack(0) => 2
+            place(2, 5, 2, 0) => -1
+            place(2, 4, 2, 0) => -1
+            place(2, 2, 2, 0) => 5
+            hung(2, 5) => 5
+            holes() => 3
             """);
     }
 
