@@ -3,13 +3,16 @@ import java.lang.reflect.Method;
 
 /**
  * Runs calls that are written as text, a line each, on a new object:
- * "new" takes a new object, "load TEXT => answer" appends a text and loads it, "out => TEXT" reads the output,
- * "name(arguments) => answer" calls a method, and an answer may be the name of an exception behind "throws.".
+ * "new" takes a new object, "text TEXT" appends a text, "load TEXT => answer" appends a text and loads it,
+ * "out => TEXT" reads the output, "name(arguments) => answer" calls a method, "call | call => answer" calls each, and
+ * an answer may be the name of an exception behind "throws.".
  */
 final class Script {
+    private static final int MOST_CALLS = 512;
     private static int lines = 0;
     private static int wrong = 0;
     private HymnBoards boards = new HymnBoards();
+    private int calls = 0;
 
     static void run(String name, String text) {
         Script script = new Script();
@@ -35,14 +38,18 @@ final class Script {
         }
     }
 
-    static void appendText(HymnBoards boards, String text) {
+    /** Returns how many calls it took. */
+    static int appendText(HymnBoards boards, String text) {
+        int calls = 0;
         for (int at = 0; at < text.length(); at += 8) {
             long bytes = 0;
             for (char sign : text.substring(at, Math.min(at + 8, text.length())).toCharArray()) {
                 bytes = bytes << 8 | sign;
             }
             boards.append(bytes);
+            calls++;
         }
+        return calls;
     }
 
     static String output(HymnBoards boards) {
@@ -56,6 +63,11 @@ final class Script {
     private void line(String name, String line) {
         if (line.equals("new")) {
             boards = new HymnBoards();
+            calls = 0;
+            return;
+        }
+        if (line.startsWith("text ")) {
+            answer(line);
             return;
         }
         int arrow = line.lastIndexOf("=>");
@@ -63,19 +75,39 @@ final class Script {
             due(name + ": " + line, "no answer", "a line with =>");
             return;
         }
-        String call = line.substring(0, arrow).stripTrailing();
         String want = line.substring(arrow + 2).strip();
-        due(name + ": " + call, answer(call), want);
+        String left = line.substring(0, arrow).strip();
+        for (String call : left.startsWith("load") ? new String[] {left} : left.split(" \\| ")) {
+            due(name + ": " + call, answer(call), want);
+        }
+        if (calls > MOST_CALLS) {
+            due(name + ": calls of one object", calls, "at most " + MOST_CALLS);
+        }
     }
 
-    private String answer(String call) {
+    int calls() {
+        return calls;
+    }
+
+    HymnBoards boards() {
+        return boards;
+    }
+
+    String answer(String call) {
         if (call.equals("out")) {
-            return output(boards);
+            String text = output(boards);
+            calls += 2 * text.length() + 1;
+            return text;
+        }
+        if (call.startsWith("text ")) {
+            calls += appendText(boards, call.substring(5));
+            return "";
         }
         if (call.equals("load") || call.startsWith("load ")) {
-            appendText(boards, call.equals("load") ? "" : call.substring(5));
+            calls += 1 + appendText(boards, call.equals("load") ? "" : call.substring(5));
             return String.valueOf(boards.load());
         }
+        calls++;
         return String.valueOf(invoke(boards, call));
     }
 
