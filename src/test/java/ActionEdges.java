@@ -37,7 +37,13 @@ final class ActionEdges {
             hang(2) => 57
             clear() => 3
             hang(2) => 3
+            load board 1; card 1 1; service 10 => 1
+            hang(0) => 0
+            size(13) => 1
             """);
+    }
+
+    private static void hold() {
         Edges.edge(30, "Holds the service that was hung last (an action; again and again, too)", """
             load board 1; card 1 1; friend 2 0 0 0 0 0 0 0 0 0 1; service 2 => 1
             borrow(0, 9, 1) => 0
@@ -52,9 +58,6 @@ final class ActionEdges {
             size(10) => 3
             size(8) => 0
             """);
-    }
-
-    private static void hold() {
         Edges.edge(30, "WRONG if no service hangs (none was hung, or the boards were cleared since)", """
             hold() => -3
             addService(5) => 0
@@ -329,7 +332,8 @@ final class ActionEdges {
         Edges.edge(39, "`index`: its place in the list || Returns the previous one; WRONG if there is no such place", "load board 1; service 5; service 1 2 3 4 5 6 7 8; service 9 => 3\n"
             + "setHymn(0, 1, 1) | setHymn(0, -1, 1) | setHymn(0, 8, 1) | setHymn(1, 8, 1) | setHymn(1, -1, 1) | setHymn(2, 1, 1) => -3\n"
             + "setHymn(0, " + GREATEST + ", 1) | setHymn(0, " + LEAST + ", 1) => -3\n"
-            + "size(14) => 0\nsetHymn(0, 0, 6) => 5\nsetHymn(1, 7, 9) => 8\nsetHymn(1, 0, 9) => 1\nhymn(2, 0) => 9\n");
+            + "size(14) => 0\nsetHymn(0, 0, 6) => 5\nsetHymn(1, 7, 9) => 8\nsetHymn(1, 0, 10) => 1\nsetHymn(1, 3, 11) => 4\n"
+            + "hymn(0, 0) => 6\nwriteService(1) => 17\nout => 10 2 3 11 5 6 7 9\nhymn(2, 0) => 9\n");
         Edges.edge(39, "cards that hang stay", """
             load board 1; card 1 3; service 111 => 1
             hang(0) => 3

@@ -67,7 +67,7 @@ final class DescriptionEdges {
             append(0x2020202020202020) | append(-1) | append(0x2020202020) => -2
             append(0) => 496
             append(0x20202020) => 500
-            append(0x20) | append(-1) | append(0x0100000000000000) => -2
+            append(0x20) | append(-1) | append(0x0100000000000000) | append(1) | append(0x80) | append(0x0001000000000000) => -2
             append(0) => 500
             load => -600
             loadError() => 1
@@ -191,6 +191,9 @@ final class DescriptionEdges {
         place("board 4;service ((", 1, "1", "(");
         place("board 4;service (((", 1, "1", "(");
         place("board 4;service 1 ", 1, "1", "(", ";", "");
+        place("board 4;service 1 (", 1, "1", "(");
+        place("board 4;service (1 (", 1, "1", "(");
+        place("board 4;service (1)1 ((", 1, "1", "(");
         place("board 4;service (1 ", 1, "1", "(", ")");
         place("board 4;service ((1)", 1, "1");
         place("board 4;service ((1)1 ", 1, "1", "(", ")");
@@ -203,7 +206,9 @@ final class DescriptionEdges {
 
     private static void place(String ahead, int statement, String... may) {
         String[] tokens = {"board", "turn", "split", "card", "back", "friend", "service", "a", "z", "turnsplit", "boards",
-            "1", "0", "99999999999", "(", ")", ";", ""};
+            "hoard", "boarr", "boar", "bard", "burn", "turk", "tun", "turns", "aplit", "splin", "splits", "hard", "care",
+            "car", "cards", "pack", "bach", "bac", "backs", "griend", "frient", "frien", "friends", "servica", "nervice",
+            "servic", "services", "1", "0", "99999999999", "(", ")", ";", ""};
         for (String token : tokens) {
             boolean isNumber = !token.isEmpty() && kind(token) == 'n';
             if (List.of(may).contains(isNumber ? "1" : token)) {
@@ -488,7 +493,9 @@ final class DescriptionEdges {
             load board 7 => -106
             """ + "text " + " ".repeat(492) + ";board 7\nload => -592\n"
             + "new\nload board 4" + " ".repeat(489) + "turn => 0\nsize(2) => 1\n"
-            + "new\nload board 4" + " ".repeat(492) + "x => -599\nloadStatement() => 0\n");
+            + "new\nload board 4" + " ".repeat(492) + "x => -599\nloadStatement() => 0\n"
+            + "new\nload board 4" + " ".repeat(492) + "6 => 0\nrows(1) => 6\n"
+            + "new\nload board 4" + " ".repeat(490) + "666 => -597\nnew\nload board 4" + " ".repeat(492) + "; => -600\n");
         Edges.edge(3, "The buffer is emptied, also on an error", """
             append(0x20) => 1
             load => -101
@@ -499,6 +506,29 @@ final class DescriptionEdges {
             append(0) => 0
             load board 4;card 1 61;service 1 => -115
             append(0x20) => 1
+            """);
+        Edges.edge(3, "Reads the input buffer as a description (section 4) and begins anew", """
+            load board 4444 => -106
+            load board 4 => 0
+            load board 1;service 99 => 1
+            hymn(0, 0) => 99
+            load board 1;service 9 => 1
+            hymn(0, 0) => 9
+            load board 1 turn => 0
+            load board 1 t => -108
+            load board 1;service ((( => -119
+            load board 1;service 1) => -117
+            load board 1;service ((1 => -119
+            load board 1;service (((1)1)1)1 => 1
+            load board 1;service (((1)2)2)2 2 => -127
+            load board 1;service (((1)2)2)1 2 => 1
+            hymns(0) => 5
+            load board 1;card 5 back 6 7;card 5 => -130
+            load board 1;card 5 7;friend 1 1 1 1 1 1 1 1 1 1 1;service 5 => 1
+            card(0, 1) => -1
+            load board 1;friend 2 0 0 0 0 0 0 0 0 0 0 => 0
+            lends(0, 0) | lends(0, 9) => 0
+            size(4) | size(6) => 0
             """);
         Edges.edge(3, "nothing hangs, all sums are 0, there are no loans, nothing can be taken back", """
             load board 1; card 1 2; friend 2 0 1 0 0 0 0 0 0 0 0; service 12; service 1 => 2

@@ -59,6 +59,10 @@ final class QueryEdges {
             load board 1 split => 0
             size(2) => 0
             size(3) => 1
+            load board 1 turn split => 0
+            load board 1 => 0
+            size(2) | size(3) => 0
+            setSplit(true) => false
             setTurn(true) => false
             setSplit(false) => true
             size(2) => 1
@@ -372,6 +376,16 @@ final class QueryEdges {
             holes() => 3
             clear() => 0
             holes() => 0
+            load board 4; card 1 1; card 0 4; card 9 6; service 100 9 99 90 => 1
+            hang(0) => 8
+            holes() => 0
+            lose(0, 1) => 1
+            place(0, 0, 0, 0) => -1
+            place(0, 0, 1, 0) => 0
+            holes() => 1
+            lose(2, 5) => 3
+            hung(0, 1) => 9
+            holes() => 3
             """);
     }
 
@@ -465,6 +479,9 @@ final class QueryEdges {
             would(0, 2) => 0
             would(1, 2) => 51
             would(1, 3) => 3
+            load board 1; card 1 9; service 10 => 1
+            would(0, 0) | would(0, 2) | would(0, 3) => 0
+            would(0, 1) => 1
             """);
         Edges.edge(20, "4 of them those turned (ways 2 and 3), 5 those that show their backs (ways 1 and 3), 6 borrowed ones", """
             load board 4 turn; card 9 1; card 1 back 6 1; card 2 back 9 1; card 6 1; friend 1 0 0 0 0 0 0 1 0 0 0; service 666 66 => 1
@@ -478,6 +495,15 @@ final class QueryEdges {
             would(0, 3) => 3
             would(0, 4) => 0
             would(0, 5) | would(0, 6) => 1
+            load board 1; friend 1 0 1 0 0 0 0 0 0 0 0; friend 1 0 0 0 0 0 0 0 0 0 0; card 0 1; service 100 => 1
+            borrow(0, 1, 1) => 0
+            would(0, 6) => 0
+            addCard(0, -1, 1) => 1
+            would(0, 6) => 1
+            load board 1; friend 1 3 0 0 0 0 0 0 0 0 0; card 1 1; service 100 => 1
+            borrow(0, 0, 2) => 0
+            would(0, 3) => 3
+            would(0, 6) => 2
             """);
     }
 
@@ -498,6 +524,9 @@ final class QueryEdges {
             outAt(0) => 5
             """);
         Edges.edge(21, "NONE if none would be left out", """
+            load board 1; card 1 1; service 10; service 1 => 2
+            outAt(0) => 0
+            outAt(1) => -1
             load board 6 6 6; card 5 18; service (5) 8 => 1
             outAt(0) => -1
             lose(0, 1) => 0
@@ -563,6 +592,8 @@ final class QueryEdges {
     private static void firstOut() {
         Edges.edge(24, "NONE if there is none", """
             firstOut() => -1
+            load board 1; card 1 1; service 10 => 1
+            firstOut() => 0
             load board 1; card 1 1; service 1; service 1 2 => 2
             firstOut() => -1
             hang(0) => 1
@@ -594,6 +625,9 @@ final class QueryEdges {
             size(8) => 0
             load board 6 6 6; card 1 54; card 2 54; service (111) 6; service (222) 6 => 2
             workFrom(0, 1) => 108
+            load board 1; card 1 2; service 10; service 1 => 2
+            workFrom(0, 1) | workFrom(1, 0) => 1
+            workFrom(0, 0) => 0
             """);
     }
 
@@ -601,7 +635,8 @@ final class QueryEdges {
         Edges.edge(26, "NONE without services", "easiest() => -1\nload board 1; card 1 1 => 0\neasiest() => -1\n");
         Edges.edge(26, "Finds the service that would be hung now with the least WORK || Returns the service, of several the lowest one", "load board 1; card 8 2" + ";service 88".repeat(15)
             + "; service 8 => 16\neasiest() => 15\nsetHymn(0, 0, 8) => 88\neasiest() => 0\nhang(3) => 2\neasiest() => 1\n"
-            + "clear() => 2\nsetHymn(4, 0, 9) => 88\nsetHymn(9, 0, 9) => 88\neasiest() => 4\nload board 1; service 5 => 1\n"
+            + "clear() => 2\nsetHymn(4, 0, 9) => 88\nsetHymn(9, 0, 9) => 88\neasiest() => 4\n"
+            + "load board 1; card 1 2; service 11; service 1; service 10 => 3\neasiest() => 2\nload board 1; service 5 => 1\n"
             + "easiest() => 0\n");
     }
 
@@ -628,6 +663,17 @@ final class QueryEdges {
             hang(1) => 3
             wouldFall() => 1
             clear() => 2
+            wouldFall() => 0
+            load board 1; friend 1 1 0 0 0 0 0 0 0 0 0; friend 1 0 0 0 0 0 0 0 0 0 0; friend 1 0 0 0 0 0 0 0 0 0 1; card 1 1; service 109 => 1
+            borrow(0, 0, 1) => 0
+            borrow(2, 9, 1) => 1
+            hang(0) => 3
+            place(0, 0, 1, 1) => 100
+            place(0, 0, 2, 1) => 129
+            wouldFall() => 2
+            giveBack(1) => 1
+            wouldFall() => 1
+            giveBack(0) => 1
             wouldFall() => 0
             """);
     }
@@ -746,7 +792,7 @@ final class QueryEdges {
             + "outputByte(0) => -1\n" + FULL_TEXT + "writeService(15) => 1\nout => 8\nwriteService(16) | writeService(-1) | writeService("
             + LEAST + ") | writeService(" + GREATEST + ")" + IOOBE + "out => 8\n");
         Edges.edge(45, "its hymns, with a space between two || Returns the length of the output", """
-            load board 1; service 7; service (999) 8; service 1 10 100 101 110 => 3
+            load board 1; service 7; service (999) 8; service 9 99 10 100 101 110 1 => 3
             writeService(0) => 1
             out => 7
             writeService(1) => 31
@@ -754,8 +800,8 @@ final class QueryEdges {
             outputByte(3) => 32
             outputByte(30) => 57
             outputByte(31) => -1
-            writeService(2) => 16
-            out => 1 10 100 101 110
+            writeService(2) => 21
+            out => 9 99 10 100 101 110 1
             """);
     }
 

@@ -301,6 +301,13 @@ final class SectionEdges {
             place(0, 0, 2, 1) => 102
             """);
         Edges.edge(29, "otherwise it is left out and is blank (those behind it are gone through still)", """
+            load board 3; card 1 1; service 31 1 1; service 131 1 => 2
+            hang(0) => 1
+            write() => 11
+            out => .../..1/...
+            hang(1) => 0
+            write() => 11
+            out => .../..1/...
             load board 3 1; card 1 1; card 2 1; service 13 1 2; service 31 31 31 => 2
             hang(0) => 2
             write() => 15
@@ -328,6 +335,35 @@ final class SectionEdges {
             hang(0) => 1
             place(0, 0, 2, 1) => 0
             place(1, 0, 2, 1) => 2
+            """);
+        Edges.edge(29, "gets the card with the lowest number with which all places behind it can still be shown", """
+            load board 5; card 0 back 1 1;card 1 back 2 1;card 2 back 3 1;card 3 back 4 1;card 4 back 5 1;card 5 back 6 1 => 0
+            addCard(6, 7, 1) => 6
+            addCard(7, 8, 1) => 7
+            addCard(8, 9, 1) => 8
+            addCard(9, 0, 1) => 9
+            addService(10) => 0
+            addHymn(0, 234) => 2
+            addHymn(0, 567) => 3
+            addHymn(0, 89) => 4
+            addHymn(0, 5) => 5
+            would(0, 0) => 4
+            would(0, 5) => 10
+            outAt(0) => 4
+            missing(0) => 1
+            bestBuy(0) => 0
+            hang(0) => 10
+            place(0, 0, 1, 1) => 0
+            place(0, 0, 2, 1) => 9
+            place(0, 1, 0, 1) => 1
+            place(0, 3, 2, 1) => 8
+            addCard(6, -1, 1) => 10
+            would(0, 0) => 5
+            hang(0) => 1
+            place(0, 0, 1, 1) => 0
+            place(0, 2, 1, 1) => 10
+            place(0, 2, 2, 1) => 6
+            place(0, 4, 2, 1) => 5
             """);
         Edges.edge(29, "Places are the columns of all rows of all boards, in this order: by boards, by rows, by columns || "
             + "by different cards that are left", """
