@@ -1001,7 +1001,7 @@ public final class HymnBoards {
         }
 
         private void dropDigitsOf(int hymn, int firstNotAdded) {
-            for (int rest = hymn; rest > firstNotAdded; rest /= 10) {
+            for (int rest = hymn; rest > 0 && rest > firstNotAdded; rest /= 10) {
                 int offer = offerThatShows(rest % 10);
                 if (offer != NONE) {
                     change(offer, rest % 10, -1);
