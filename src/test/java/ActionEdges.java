@@ -26,7 +26,7 @@ final class ActionEdges {
     }
 
     private static void hang() {
-        Edges.edge(29, "Throws `IndexOutOfBoundsException` if there is no such service", "hang(0) | hang(-1) | hang(" + GREATEST
+        Edges.edge(29, "`service`: a service || Throws `IndexOutOfBoundsException` if there is no such service", "hang(0) | hang(-1) | hang(" + GREATEST
             + ") | hang(" + LEAST + ")" + IOOBE + "addService(5) => 0\nhang(0) => 0\nhang(1) | hang(-1)" + IOOBE
             + "load board 1; card 1 1" + ";service 1".repeat(16) + " => 16\nhang(15) => 1\nhang(16)" + IOOBE + "size(8) => 15\n");
         Edges.edge(29, "Returns the WORK", """
@@ -148,7 +148,7 @@ final class ActionEdges {
     }
 
     private static void borrow() {
-        Edges.edge(32, "Throws `IndexOutOfBoundsException` if there is no such friend", "borrow(0, 0, 1) | borrow(-1, 0, 1)" + IOOBE
+        Edges.edge(32, "`friend`: a friend || Throws `IndexOutOfBoundsException` if there is no such friend", "borrow(0, 0, 1) | borrow(-1, 0, 1)" + IOOBE
             + LENDING + "borrow(1, 0, 1) | borrow(-1, 0, 1) | borrow(" + GREATEST + ", 0, 1) | borrow(" + LEAST + ", 0, 1)" + IOOBE
             + "borrow(0, 0, 1) => 0\n");
         Edges.edge(32, "`digit`: 0 to 9 || `many`: 1 to 60 || Throws `IllegalArgumentException` if digit or many is out of range", LENDING
@@ -185,7 +185,7 @@ final class ActionEdges {
     }
 
     private static void giveBack() {
-        Edges.edge(33, "Throws `IndexOutOfBoundsException` if there is no such loan", "giveBack(0) | giveBack(-1)" + IOOBE + LENDING
+        Edges.edge(33, "`loan`: a loan || Throws `IndexOutOfBoundsException` if there is no such loan", "giveBack(0) | giveBack(-1)" + IOOBE + LENDING
             + "giveBack(0)" + IOOBE + Edges.counted(12, "borrow(0, 0, 1) => #") + "giveBack(12) | giveBack(-1) | giveBack(" + LEAST
             + ") | giveBack(" + GREATEST + ")" + IOOBE + "giveBack(11) => 0\ngiveBack(11)" + IOOBE + "giveBack(0) => 0\nsize(7) => 10\n");
         Edges.edge(33, "its cards go back to the friend || Returns how many cards came down by that", """
@@ -278,20 +278,30 @@ final class ActionEdges {
     }
 
     private static void switches() {
-        Edges.edge(37, "Returns whether it was", """
+        Edges.edge(37, "`on`: whether it is on from now on || Returns whether it was", """
             setTurn(false) => false
+            size(2) => 0
             setTurn(true) => false
+            size(2) => 1
             setTurn(true) => true
+            size(2) => 1
             setTurn(false) => true
+            size(2) => 0
             setTurn(false) => false
+            size(3) => 0
             size(14) => 5
             """);
-        Edges.edge(38, "Returns whether it was", """
+        Edges.edge(38, "`on`: whether it is on from now on || Returns whether it was", """
             setSplit(false) => false
+            size(3) => 0
             setSplit(true) => false
+            size(3) => 1
             setSplit(true) => true
+            size(3) => 1
             setSplit(false) => true
+            size(3) => 0
             setSplit(false) => false
+            size(2) => 0
             size(14) => 5
             """);
         Edges.edge(37, "cards that hang stay, also those that are turned", """
@@ -323,7 +333,7 @@ final class ActionEdges {
     }
 
     private static void setHymn() {
-        Edges.edge(39, "Throws `IndexOutOfBoundsException` if there is no such service", "setHymn(0, 0, 1) | setHymn(-1, 0, 1)" + IOOBE
+        Edges.edge(39, "`service`: a service || Throws `IndexOutOfBoundsException` if there is no such service", "setHymn(0, 0, 1) | setHymn(-1, 0, 1)" + IOOBE
             + LENDING + "setHymn(1, 0, 1) | setHymn(-1, 0, 1) | setHymn(" + GREATEST + ", 0, 1) | setHymn(" + LEAST + ", 0, 1)" + IOOBE
             + "setHymn(0, 0, 5) => 1\n");
         Edges.edge(39, "`hymn`: 1 to 999 || Throws `IllegalArgumentException` if hymn is out of range", LENDING
@@ -344,7 +354,7 @@ final class ActionEdges {
     }
 
     private static void addHymn() {
-        Edges.edge(40, "Throws `IndexOutOfBoundsException` if there is no such service", "addHymn(0, 1) | addHymn(-1, 1)" + IOOBE
+        Edges.edge(40, "`service`: a service || Throws `IndexOutOfBoundsException` if there is no such service", "addHymn(0, 1) | addHymn(-1, 1)" + IOOBE
             + LENDING + "addHymn(1, 1) | addHymn(-1, 1) | addHymn(" + GREATEST + ", 1) | addHymn(" + LEAST + ", 1)" + IOOBE
             + "addHymn(0, 5) => 2\n");
         Edges.edge(40, "`hymn`: 1 to 999 || Throws `IllegalArgumentException` if hymn is out of range", LENDING
@@ -461,7 +471,8 @@ final class ActionEdges {
             size(1) | size(9) => 3
             size(11) => 3
             """);
-        Edges.edge(48, "Copies everything except the input buffer, the results of the latest load, the actions, the output and the snapshots", """
+        Edges.edge(48, "Copies everything except the input buffer, the results of the latest load, the actions, the output and the snapshots "
+            + "to a snapshot", """
             load board 1; card 5 1; service 5 => 1
             hang(0) => 1
             write() => 3

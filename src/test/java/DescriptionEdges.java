@@ -40,7 +40,7 @@ final class DescriptionEdges {
     }
 
     private static void newObject() {
-        String name = Edges.name(1, "A new object is as by the text \"board 4\"");
+        String name = Edges.name(1, "A new object is as by the text \"board 4\" || Creates boards as told in section 4");
         Script made = new Script();
         Script loaded = new Script();
         loaded.answer("load board 4");
@@ -62,7 +62,7 @@ final class DescriptionEdges {
     }
 
     private static void buffer() {
-        String sentence = "FULL if it would exceed 500";
+        String sentence = "bytes: the bytes || FULL if it would exceed 500";
         Edges.edge(2, sentence, appendedUpTo496() + """
             append(0x2020202020202020) | append(-1) | append(0x2020202020) => -2
             append(0) => 496
@@ -91,12 +91,15 @@ final class DescriptionEdges {
             append(0x2020202020202020) => 9
             append(0) => 9
             """);
-        Edges.edge(2, "the most significant byte first, where bytes that are 0 are left out", """
+        Edges.edge(2, "Appends bytes to the input buffer: the 8 bytes of a number, the most significant byte first, "
+            + "where bytes that are 0 are left out", """
             append(0x626f006172006400) => 5
             append(0x0034000000000000) => 6
             load => 0
             append(0x6400720061006f62) => 5
             load => -100
+            append(0x626f617264203132) => 8
+            load => -106
             append(0x626f61726420003b) => 7
             load => -106
             append(-9223372036854775808) => 1
@@ -543,6 +546,23 @@ final class DescriptionEdges {
             card(101, 2) => 0
             hold() => -3
             luck() | turned() => 0.0
+            """);
+        Edges.edge(3, "and then nothing but the buffer and the results of loadError() and loadStatement() changes", """
+            load board 1 2 turn; card 1 1; service 1 => 1
+            hang(0) => 1
+            hold() => 0
+            size(14) => 2
+            load board 6; card 2 2; service 5; service 6; x => -141
+            size(14) => 2
+            size(0) => 2
+            size(2) | size(4) | size(6) | size(9) | size(10) | size(11) | size(12) => 1
+            size(8) => 0
+            undo() => 1
+            load => -100
+            load board 7 => -106
+            undo() => 0
+            size(8) => -1
+            undo() => -1
             """);
         Edges.edge(3, "The output and the snapshots stay", """
             load board 2; service 7 => 1

@@ -1,4 +1,6 @@
 import java.io.IOException;
+import java.lang.reflect.Constructor;
+import java.lang.reflect.Field;
 import java.lang.reflect.Method;
 import java.lang.reflect.Modifier;
 import java.nio.file.Files;
@@ -6,7 +8,10 @@ import java.nio.file.Path;
 import java.util.Set;
 import java.util.TreeSet;
 
-/** The public face: each method with its types and the exceptions that it declares, as the document writes it. */
+/**
+ * The public face: the class, its constants and its constructor, and each method with its types and the exceptions that it
+ * declares, as the document writes it, in its list and at the promises.
+ */
 public final class FaceTest {
     private static final Path DOCUMENT = Path.of("../shared/DOC.md");
     private static final String INDEX = " throws IndexOutOfBoundsException";
@@ -34,10 +39,73 @@ public final class FaceTest {
             }
         }
         Script.due("the face", found, new TreeSet<>(FACE));
+        theClass();
+        constants();
         if (Files.isReadable(DOCUMENT)) {
             Script.due("the document's face", inDocument(), new TreeSet<>(FACE));
+            constantsInDocument();
+            promisesInDocument();
         }
         Script.end();
+    }
+
+    private static void theClass() {
+        Script.due("the class", Modifier.toString(HymnBoards.class.getModifiers()), "public final");
+        Script.due("its package", HymnBoards.class.getPackageName(), "");
+        Script.due("what it extends", HymnBoards.class.getSuperclass(), Object.class);
+        Script.due("what it implements", HymnBoards.class.getInterfaces().length, 0);
+        Script.due("its type parameters", HymnBoards.class.getTypeParameters().length, 0);
+        Script.due("its constructors", HymnBoards.class.getDeclaredConstructors().length, 1);
+        for (Constructor<?> constructor : HymnBoards.class.getConstructors()) {
+            Script.due("its public constructor", constructor.toString(), "public HymnBoards()");
+        }
+        Script.due("its public constructors", HymnBoards.class.getConstructors().length, 1);
+    }
+
+    private static void constants() {
+        Set<String> found = new TreeSet<>();
+        for (Field field : HymnBoards.class.getFields()) {
+            found.add(field.toString());
+        }
+        Script.due("the constants", found, new TreeSet<>(Set.of("public static final int HymnBoards.NONE",
+            "public static final int HymnBoards.FULL", "public static final int HymnBoards.WRONG")));
+        Script.due("NONE", HymnBoards.NONE, -1);
+        Script.due("FULL", HymnBoards.FULL, -2);
+        Script.due("WRONG", HymnBoards.WRONG, -3);
+    }
+
+    private static void constantsInDocument() throws IOException {
+        Set<String> found = new TreeSet<>();
+        Set<String> due = new TreeSet<>();
+        for (String line : Files.readAllLines(DOCUMENT)) {
+            if (line.startsWith("    public static final int ")) {
+                found.add(line.strip().replace("public static final int ", "").replace(";", ""));
+            }
+        }
+        due.add("NONE = " + HymnBoards.NONE);
+        due.add("FULL = " + HymnBoards.FULL);
+        due.add("WRONG = " + HymnBoards.WRONG);
+        Script.due("the document's constants", found, due);
+    }
+
+    /** The method under the heading of each promise, from 1 on. */
+    private static void promisesInDocument() throws IOException {
+        Set<String> found = new TreeSet<>();
+        int promise = 0;
+        String name = "";
+        for (String line : Files.readAllLines(DOCUMENT)) {
+            if (line.startsWith("## Promise ")) {
+                promise++;
+                Script.due("number of a promise", line.startsWith("## Promise " + promise + ": "), true);
+                name = line.substring(line.indexOf(": ") + 2);
+            } else if (promise > 1 && line.matches("`[^`]*\\)[^`]*`: .*")) {
+                String call = withoutNames(line.substring(1, line.indexOf("`:")));
+                Script.due("promise " + promise + ", " + name, call.contains(" " + name + "("), true);
+                found.add(call);
+            }
+        }
+        Script.due("promises", promise, FACE.size() + 1);
+        Script.due("the promises' methods", found, new TreeSet<>(FACE));
     }
 
     private static String written(Method method) {
@@ -59,11 +127,15 @@ public final class FaceTest {
         Set<String> found = new TreeSet<>();
         for (String line : Files.readAllLines(DOCUMENT)) {
             if (line.startsWith("    public ") && line.contains("(") && !line.contains("HymnBoards(")) {
-                String call = line.strip().replaceFirst("^public ", "").replaceFirst(";$", "");
-                String inside = call.substring(call.indexOf('(') + 1, call.indexOf(')'));
-                found.add(call.replace("(" + inside + ")", "(" + inside.replaceAll(" \\w+(?=,|$)", "") + ")"));
+                found.add(withoutNames(line.strip().replaceFirst("^public ", "").replaceFirst(";$", "")));
             }
         }
         return found;
+    }
+
+    /** Leaves the names of the arguments out. */
+    private static String withoutNames(String call) {
+        String inside = call.substring(call.indexOf('(') + 1, call.indexOf(')'));
+        return call.replace("(" + inside + ")", "(" + inside.replaceAll(" \\w+(?=,|$)", "") + ")");
     }
 }

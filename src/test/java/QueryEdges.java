@@ -41,7 +41,7 @@ final class QueryEdges {
         Edges.edge(6, "Throws `IllegalArgumentException` if what is out of range",
             "size(-1) | size(15) | size(" + LEAST + ") | size(" + GREATEST + ")" + IAE + "size(0) => 1\nsize(14) => 0\n"
             + FULL_TEXT + "size(-1) | size(15)" + IAE);
-        Edges.edge(6, "0 boards, 1 all rows", """
+        Edges.edge(6, "Returns a number || Returns the number || what: 0 boards, 1 all rows", """
             load board 1 => 0
             size(0) | size(1) => 1
             load board 6 1 => 0
@@ -168,7 +168,8 @@ final class QueryEdges {
         Edges.edge(7, "Throws `IllegalArgumentException` if what is out of range", FULL_TEXT
             + "card(0, -1) | card(0, 4) | card(129, -1) | card(129, 4) | card(0, " + LEAST + ") | card(0, " + GREATEST + ")" + IAE
             + "card(0, 0) => 8\ncard(0, 3) => 0\n");
-        Edges.edge(7, "0 its FRONT, 1 its BACK (NONE), 2 its COUNT, 3 how many of it hang", """
+        Edges.edge(7, "Returns a number of a card || what: 0 its FRONT, 1 its BACK (NONE), 2 its COUNT, 3 how many of it hang || "
+            + "Returns the number", """
             load board 1; card 7 back 0 60; card 7 0; friend 1 0 0 0 0 0 0 0 1 0 0; service 70 => 1
             card(0, 0) | card(1, 0) => 7
             card(0, 1) => 0
@@ -190,7 +191,7 @@ final class QueryEdges {
         Edges.edge(8, "`digit`: 0 to 9 || Throws `IllegalArgumentException` if digit is out of range", FULL_TEXT
             + "way(0, -1) | way(0, 10) | way(129, -1) | way(129, 10) | way(0, " + LEAST + ") | way(0, " + GREATEST + ")" + IAE
             + "way(0, 0) | way(0, 9) => -1\n");
-        Edges.edge(8, "Returns 0 to 3 (section 1); NONE if it cannot", """
+        Edges.edge(8, "Returns in which way a card can show a digit || Returns 0 to 3 (section 1); NONE if it cannot", """
             load board 1; card 6 back 0 0; card 1 3; friend 1 0 0 0 0 0 0 0 0 0 0 => 0
             way(0, 6) => 0
             way(0, 0) => 1
@@ -200,14 +201,14 @@ final class QueryEdges {
     }
 
     private static void lends() {
-        Edges.edge(9, "Throws `IndexOutOfBoundsException` if there is no such friend",
+        Edges.edge(9, "`friend`: a friend || Throws `IndexOutOfBoundsException` if there is no such friend",
             "lends(0, 0) | lends(-1, 0) | lends(" + GREATEST + ", 0) | lends(" + LEAST + ", 0)" + IOOBE
             + "load board 1; friend 1 1 0 0 0 0 0 0 0 0 0 => 0\nlends(0, 0) => 1\nlends(1, 0) | lends(-1, 0)" + IOOBE
             + FULL_TEXT + "lends(2, 9) => 20\nlends(3, 9)" + IOOBE);
         Edges.edge(9, "`digit`: 0 to 9 || Throws `IllegalArgumentException` if digit is out of range", FULL_TEXT
             + "lends(0, -1) | lends(2, 10) | lends(0, " + LEAST + ") | lends(0, " + GREATEST + ")" + IAE
             + "lends(0, 0) => 0\nlends(0, 9) => 20\n");
-        Edges.edge(9, "Returns how many cards of a digit a friend has to lend now", """
+        Edges.edge(9, "Returns how many cards of a digit a friend has to lend now || Returns the number", """
             load board 1; friend 1 20 0 0 0 0 0 0 0 0 1; friend 1 20 0 0 0 0 0 0 0 0 0; service 7 => 1
             lends(0, 0) => 20
             borrow(0, 0, 20) => 0
@@ -225,15 +226,15 @@ final class QueryEdges {
     }
 
     private static void loan() {
-        Edges.edge(10, "Throws `IndexOutOfBoundsException` if there is no such loan",
+        Edges.edge(10, "`loan`: a loan || Throws `IndexOutOfBoundsException` if there is no such loan",
             "loan(0, 0) | loan(-1, 0) | loan(" + GREATEST + ", 0) | loan(" + LEAST + ", 0)" + IOOBE
             + FULL_TEXT + "loan(0, 0)" + IOOBE + Edges.counted(12, "borrow(0, 9, 1) => #")
             + "loan(11, 3) => 9\nloan(12, 0) | loan(-1, 0)" + IOOBE + "giveBack(0) => 0\nloan(10, 3) => 9\nloan(11, 0)" + IOOBE);
         Edges.edge(10, "Throws `IllegalArgumentException` if what is out of range", FULL_TEXT + "borrow(0, 9, 1) => 0\n"
             + "loan(0, -1) | loan(0, 4) | loan(0, " + LEAST + ") | loan(0, " + GREATEST + ")" + IAE
             + "loan(0, 0) => 0\nloan(0, 3) => 9\n");
-        Edges.edge(10, "loans are numbered from 0 as they were made, those behind one that ends become one less || "
-            + "0 its friend, 1 its digit, 2 how many cards, 3 the services that are left", """
+        Edges.edge(10, "Returns a number of a loan; loans are numbered from 0 as they were made, those behind one that ends "
+            + "become one less || what: 0 its friend, 1 its digit, 2 how many cards, 3 the services that are left || Returns the number", """
             load board 1; friend 9 5 5 5 5 5 0 0 0 0 0; friend 1 5 5 5 5 5 0 0 0 0 0; service 7 => 1
             borrow(0, 0, 1) => 0
             borrow(0, 1, 2) => 1
@@ -263,14 +264,16 @@ final class QueryEdges {
         Edges.edge(11, "Services, friends, boards, rows and columns are numbered from 0 || "
             + "Throws `IndexOutOfBoundsException` if there is no such board", "rows(0) => 4\nrows(1) | rows(-1) | rows("
             + GREATEST + ") | rows(" + LEAST + ")" + IOOBE + FULL_TEXT + "rows(2) => 6\nrows(3) | rows(-1)" + IOOBE);
-        Edges.edge(12, "Throws `IndexOutOfBoundsException` if there is no such service", "hymns(0) | hymns(-1) | hymns("
+        Edges.edge(11, "`board`: a board || Returns how many rows a board has || Returns the number", "load board 5 3 => 0\nrows(0) => 5\n"
+            + "rows(1) => 3\nload board 1 2 6 => 0\nrows(0) => 1\nrows(1) => 2\nrows(2) => 6\n");
+        Edges.edge(12, "`service`: a service || Throws `IndexOutOfBoundsException` if there is no such service", "hymns(0) | hymns(-1) | hymns("
             + GREATEST + ") | hymns(" + LEAST + ")" + IOOBE + FULL_TEXT + "hymns(15) => 1\nhymns(16) | hymns(-1)" + IOOBE);
-        Edges.edge(12, "Counts the hymns of a service", "load board 1; service 5; service (1 2) 4 => 2\n"
+        Edges.edge(12, "Counts the hymns of a service || Returns the number", "load board 1; service 5; service (1 2) 4 => 2\n"
             + "hymns(0) => 1\nhymns(1) => 8\n");
-        Edges.edge(13, "Throws `IndexOutOfBoundsException` if there is no such service",
+        Edges.edge(13, "`service`: a service || Throws `IndexOutOfBoundsException` if there is no such service",
             "hymn(0, 0) | hymn(-1, 0) | hymn(0, -1)" + IOOBE + FULL_TEXT + "hymn(15, 0) => 8\nhymn(16, 0) | hymn(-1, 9) | hymn("
             + LEAST + ", 0) | hymn(" + GREATEST + ", 0)" + IOOBE);
-        Edges.edge(13, "`index`: its place in the list, from 0 || Returns the hymn; NONE if there is no such place", "load board 1; service 5; service 1 2 3 4 5 6 7 999 => 2\n"
+        Edges.edge(13, "Returns a hymn of a service || `index`: its place in the list, from 0 || Returns the hymn; NONE if there is no such place", "load board 1; service 5; service 1 2 3 4 5 6 7 999 => 2\n"
             + "hymn(0, 0) => 5\nhymn(1, 7) => 999\nhymn(1, 0) => 1\n"
             + "hymn(0, 1) | hymn(0, -1) | hymn(0, 8) | hymn(1, 8) | hymn(1, -1) | hymn(0, " + GREATEST + ") | hymn(0, " + LEAST
             + ") => -1\n");
@@ -278,7 +281,7 @@ final class QueryEdges {
 
     private static void place() {
         String loaded = "load board 2 6; card 1 13; service 111 1 1 1 1 11 => 1\nhang(0) => 13\n";
-        Edges.edge(14, "`row`: a row of it || Throws `IndexOutOfBoundsException` if there is no such board or row", loaded
+        Edges.edge(14, "`board`: a board || `row`: a row of it || Throws `IndexOutOfBoundsException` if there is no such board or row", loaded
             + "place(0, 1, 2, 0) | place(1, 5, 2, 0) => 1\n"
             + "place(-1, 0, 0, 0) | place(2, 0, 0, 0) | place(0, -1, 0, 0) | place(0, 2, 0, 0) | place(1, 6, 0, 0)" + IOOBE
             + "place(" + LEAST + ", 0, 0, 0) | place(" + GREATEST + ", 0, 0, 0) | place(0, " + LEAST + ", 0, 0) | place(0, "
@@ -288,7 +291,21 @@ final class QueryEdges {
             + "place(0, 0, " + LEAST + ", 0) | place(0, 0, " + GREATEST + ", 0) | place(0, 0, 0, " + LEAST + ") | place(0, 0, 0, "
             + GREATEST + ")" + IAE + "place(1, 5, 0, 3) | place(1, 5, 3, 0)" + IAE
             + "place(0, 0, 0, 0) | place(0, 0, 2, 0) => 1\nplace(0, 0, 0, 2) => 0\n");
-        Edges.edge(14, "NONE if no card hangs there", """
+        Edges.edge(14, "Returns what is at a place || what: 0 the digit, 1 the number of the card, 2 the way", """
+            load board 1 1 turn; card 7 1; card 6 back 2 1; card 3 back 9 1; friend 1 0 0 0 0 0 0 0 0 0 1; service 926 => 1
+            borrow(0, 9, 1) => 0
+            hang(0) => 3
+            place(0, 0, 0, 0) => 9
+            place(0, 0, 0, 1) => 2
+            place(0, 0, 0, 2) => 1
+            place(0, 0, 1, 0) => 2
+            place(0, 0, 1, 1) | place(0, 0, 1, 2) => 1
+            place(0, 0, 2, 0) => 6
+            place(0, 0, 2, 1) => 109
+            place(0, 0, 2, 2) => 2
+            place(1, 0, 2, 0) | place(1, 0, 2, 1) => -1
+            """);
+        Edges.edge(14, "Returns the number; NONE if no card hangs there", """
             place(0, 0, 0, 0) | place(0, 3, 2, 0) | place(0, 0, 0, 1) | place(0, 0, 0, 2) => -1
             load board 2; card 0 3; card 1 1; service 10 2; service 100 => 2
             hang(0) => 2
@@ -320,10 +337,11 @@ final class QueryEdges {
     }
 
     private static void hung() {
-        Edges.edge(15, "`row`: a row of it || Throws `IndexOutOfBoundsException` if there is no such board or row", "load board 2 6 => 0\n"
+        Edges.edge(15, "`board`: a board || `row`: a row of it || Throws `IndexOutOfBoundsException` if there is no such board or row", "load board 2 6 => 0\n"
             + "hung(0, 0) | hung(0, 1) | hung(1, 5) => -1\nhung(-1, 0) | hung(2, 0) | hung(0, -1) | hung(0, 2) | hung(1, 6)" + IOOBE
             + "hung(" + LEAST + ", 0) | hung(" + GREATEST + ", 0) | hung(0, " + LEAST + ") | hung(0, " + GREATEST + ")" + IOOBE);
-        Edges.edge(15, "Returns the hymn with which the row was hung last, also if cards of it came down", """
+        Edges.edge(15, "Returns the hymn that was hung in a row || "
+            + "Returns the hymn with which the row was hung last, also if cards of it came down", """
             load board 1; card 9 3; service 999 => 1
             hung(0, 0) => -1
             hang(0) => 3
@@ -351,7 +369,7 @@ final class QueryEdges {
     }
 
     private static void holes() {
-        Edges.edge(16, "Counts the rows that were hung and lack a card now", """
+        Edges.edge(16, "Counts the rows that were hung and lack a card now || Returns the number", """
             holes() => 0
             load board 6; card 1 9; card 2 1; service 111 3 11 1; service 3 => 2
             holes() => 0
@@ -392,7 +410,7 @@ final class QueryEdges {
     private static void free() {
         Edges.edge(17, "`digit`: 0 to 9 || Throws `IllegalArgumentException` if digit is out of range",
             "free(-1) | free(10) | free(" + LEAST + ") | free(" + GREATEST + ")" + IAE + "free(0) | free(9) => 0\n");
-        Edges.edge(17, "Counts the cards that do not hang and can show a digit", FULL_TEXT + """
+        Edges.edge(17, "Counts the cards that do not hang and can show a digit || Returns the number", FULL_TEXT + """
             free(8) => 720
             free(0) | free(9) | free(6) => 0
             borrow(0, 9, 20) => 0
@@ -419,7 +437,7 @@ final class QueryEdges {
             "canShow(0) | canShow(-1) | canShow(1000) | canShow(" + LEAST + ") | canShow(" + GREATEST + ")" + IAE
             + "canShow(1) | canShow(999) => false\n" + "load board 1; card 1 1; card 9 3 => 0\ncanShow(1) | canShow(999) => true\n"
             + "canShow(0) | canShow(1000)" + IAE);
-        Edges.edge(18, "Returns true if so || all digits of a hymn could be shown at the same time by different cards that do not hang", """
+        Edges.edge(18, "Returns true if so || Tells whether all digits of a hymn could be shown at the same time by different cards that do not hang", """
             load board 1; card 1 back 2 2; card 0 1; service 11; service 1 => 2
             canShow(12) | canShow(21) | canShow(11) | canShow(22) | canShow(120) | canShow(10) => true
             canShow(112) | canShow(111) | canShow(100) | canShow(3) | canShow(13) => false
@@ -440,7 +458,7 @@ final class QueryEdges {
     private static void most() {
         Edges.edge(19, "`digit`: 0 to 9 || Throws `IllegalArgumentException` if digit is out of range",
             "most(-1) | most(10) | most(" + LEAST + ") | most(" + GREATEST + ")" + IAE + "most(0) | most(9) => 0\n");
-        Edges.edge(19, "Counts how often a digit could be shown at the same time, by all cards that there are", FULL_TEXT + """
+        Edges.edge(19, "Counts how often a digit could be shown at the same time, by all cards that there are || Returns the number", FULL_TEXT + """
             most(8) => 720
             most(9) | most(0) => 0
             borrow(2, 9, 20) => 0
@@ -459,13 +477,14 @@ final class QueryEdges {
     }
 
     private static void would() {
-        Edges.edge(20, "Throws `IndexOutOfBoundsException` if there is no such service",
+        Edges.edge(20, "`service`: a service || Throws `IndexOutOfBoundsException` if there is no such service",
             "would(0, 0) | would(-1, 0)" + IOOBE + FULL_TEXT + "would(15, 0) => 1\nwould(16, 0) | would(-1, 0) | would(" + LEAST
             + ", 0) | would(" + GREATEST + ", 0)" + IOOBE);
         Edges.edge(20, "Throws `IllegalArgumentException` if what is out of range", FULL_TEXT
             + "would(0, -1) | would(0, 7) | would(0, " + LEAST + ") | would(0, " + GREATEST + ")" + IAE
             + "would(0, 0) => 1\nwould(0, 6) => 0\n");
-        Edges.edge(20, "Tells what would be if a service was hung now || 0 rows that would be hung, 1 rows that would be left out, 2 the WORK, 3 cards that would hang", """
+        Edges.edge(20, "Tells what would be if a service was hung now || Returns the number || what: 0 rows that would be hung, "
+            + "1 rows that would be left out, 2 the WORK, 3 cards that would hang", """
             load board 6 6 6 turn; service (999) 8; service 9 => 2
             would(0, 0) | would(0, 2) | would(0, 3) | would(0, 4) | would(0, 5) | would(0, 6) => 0
             would(0, 1) => 18
@@ -508,7 +527,7 @@ final class QueryEdges {
     }
 
     private static void outAt() {
-        Edges.edge(21, "Throws `IndexOutOfBoundsException` if there is no such service", "outAt(0) | outAt(-1)" + IOOBE
+        Edges.edge(21, "`service`: a service || Throws `IndexOutOfBoundsException` if there is no such service", "outAt(0) | outAt(-1)" + IOOBE
             + FULL_TEXT + "outAt(15) => -1\noutAt(16) | outAt(-1) | outAt(" + LEAST + ") | outAt(" + GREATEST + ")" + IOOBE);
         Edges.edge(21, "Tells which hymn would be left out first if a service was hung now || Returns 100 times the board plus the row", """
             load board 6 6 6; card 5 17; service (5) 6; service 4 => 2
@@ -537,8 +556,25 @@ final class QueryEdges {
     }
 
     private static void missing() {
-        Edges.edge(22, "Throws `IndexOutOfBoundsException` if there is no such service", "missing(0) | missing(-1)" + IOOBE
+        Edges.edge(22, "`service`: a service || Throws `IndexOutOfBoundsException` if there is no such service", "missing(0) | missing(-1)" + IOOBE
             + FULL_TEXT + "missing(15) => 0\nmissing(16) | missing(-1) | missing(" + LEAST + ") | missing(" + GREATEST + ")" + IOOBE);
+        Edges.edge(22, "Counts the cards that are missing of a service: the digits of all rows that it is to have on the boards || "
+            + "Returns the number", """
+            load board 2 1; card 1 1; card 2 1; service 12 34 567; service 9; service 111 => 3
+            missing(0) => 4
+            missing(1) => 2
+            missing(2) => 5
+            setSplit(true) => false
+            missing(0) => 5
+            missing(1) => 1
+            missing(2) => 2
+            addHymn(1, 1) => 2
+            missing(1) => 1
+            load board 2; card 1 2; service 13 1; service 131 11 => 2
+            missing(0) => 1
+            missing(1) => 3
+            outAt(0) => 0
+            """);
         Edges.edge(22, "less the most of them that can be shown at the same time by different cards", """
             load board 6 6 6; service (999) 8; service 1 => 2
             missing(0) => 54
@@ -561,11 +597,23 @@ final class QueryEdges {
     }
 
     private static void bestBuy() {
-        Edges.edge(23, "Throws `IndexOutOfBoundsException` if there is no such service", "bestBuy(0) | bestBuy(-1)" + IOOBE
+        Edges.edge(23, "`service`: a service || Throws `IndexOutOfBoundsException` if there is no such service", "bestBuy(0) | bestBuy(-1)" + IOOBE
             + FULL_TEXT + "bestBuy(15) => -1\nbestBuy(16) | bestBuy(-1) | bestBuy(" + LEAST + ") | bestBuy(" + GREATEST + ")" + IOOBE);
         Edges.edge(23, "(as section 3 tells it; also if there are 12 own cards)", "load board 1" + ";card 1 60".repeat(12)
             + "; service 10; service 91; service 2 => 3\nsize(4) => 12\nbestBuy(0) => 0\nbestBuy(1) => 9\nbestBuy(2) => 2\n"
             + "setTurn(true) => false\nbestBuy(1) => 6\nsize(4) => 12\n");
+        Edges.edge(23, "Finds the digit of which one more card, with this FRONT and no BACK, would let the most rows of a service hang", """
+            load board 2; card 1 back 2 1; service 1 2; service 12 3; service 66 9; service 9 6 => 4
+            bestBuy(0) => 1
+            bestBuy(1) => 1
+            bestBuy(2) => 9
+            bestBuy(3) => 6
+            setTurn(true) => false
+            bestBuy(2) | bestBuy(3) => 6
+            buy(0, 59) => 60
+            bestBuy(0) => -1
+            bestBuy(1) => 3
+            """);
         Edges.edge(23, "would let the most rows of a service hang", """
             load board 4; card 1 2; card 3 1; service 12 113 3 1 => 1
             would(0, 0) => 1
@@ -590,7 +638,7 @@ final class QueryEdges {
     }
 
     private static void firstOut() {
-        Edges.edge(24, "NONE if there is none", """
+        Edges.edge(24, "Returns the service; NONE if there is none", """
             firstOut() => -1
             load board 1; card 1 1; service 10 => 1
             firstOut() => 0
@@ -607,7 +655,7 @@ final class QueryEdges {
     }
 
     private static void workFrom() {
-        Edges.edge(25, "Throws `IndexOutOfBoundsException` if there is no such service", "workFrom(0, 0) | workFrom(-1, -1)" + IOOBE
+        Edges.edge(25, "`first`: a service || `second`: a service || Throws `IndexOutOfBoundsException` if there is no such service", "workFrom(0, 0) | workFrom(-1, -1)" + IOOBE
             + FULL_TEXT + "workFrom(0, 15) | workFrom(15, 0) | workFrom(15, 15) => 0\n"
             + "workFrom(16, 0) | workFrom(0, 16) | workFrom(-1, 0) | workFrom(0, -1)" + IOOBE
             + "workFrom(" + LEAST + ", 0) | workFrom(0, " + GREATEST + ")" + IOOBE);
@@ -641,7 +689,8 @@ final class QueryEdges {
     }
 
     private static void wouldFall() {
-        Edges.edge(27, "Tells how many cards would come down if the service that hangs was held now (loans that end; 0 if none hangs)", """
+        Edges.edge(27, "Tells how many cards would come down if the service that hangs was held now (loans that end; 0 if none hangs) || "
+            + "Returns the number", """
             wouldFall() => 0
             load board 1; card 1 1; friend 1 0 5 0 0 0 0 0 0 0 0; friend 2 0 5 0 0 0 0 0 0 0 0; service 111; service 1 => 2
             borrow(0, 1, 2) => 0
@@ -663,6 +712,20 @@ final class QueryEdges {
             hang(1) => 3
             wouldFall() => 1
             clear() => 2
+            wouldFall() => 0
+            load board 1; friend 2 0 9 0 0 0 0 0 0 0 0; service 1; service 11; service 111 => 3
+            borrow(0, 1, 2) => 0
+            hang(0) => 1
+            hold() => 0
+            borrow(0, 1, 1) => 1
+            wouldFall() => 0
+            hang(1) => 1
+            wouldFall() => 1
+            hang(2) => 1
+            wouldFall() => 2
+            giveBack(1) => 1
+            wouldFall() => 2
+            hold() => 2
             wouldFall() => 0
             load board 1; friend 1 1 0 0 0 0 0 0 0 0 0; friend 1 0 0 0 0 0 0 0 0 0 0; friend 1 0 0 0 0 0 0 0 0 0 1; card 1 1; service 109 => 1
             borrow(0, 0, 1) => 0
@@ -714,6 +777,14 @@ final class QueryEdges {
             luck() => 0.3333333333333333
             hang(2) => 1
             luck() => 0.4
+            hold() => 0
+            luck() => 0.4
+            clear() => 1
+            luck() => 0.4
+            undo() => 5
+            undo() => 4
+            undo() => 3
+            luck() => 0.3333333333333333
             load board 1; service 5 => 1
             luck() => 0.0
             hang(0) => 0
@@ -788,7 +859,7 @@ final class QueryEdges {
     }
 
     private static void writeService() {
-        Edges.edge(45, "Throws `IndexOutOfBoundsException` if there is no such service", "writeService(0) | writeService(-1)" + IOOBE
+        Edges.edge(45, "`service`: a service || Throws `IndexOutOfBoundsException` if there is no such service", "writeService(0) | writeService(-1)" + IOOBE
             + "outputByte(0) => -1\n" + FULL_TEXT + "writeService(15) => 1\nout => 8\nwriteService(16) | writeService(-1) | writeService("
             + LEAST + ") | writeService(" + GREATEST + ")" + IOOBE + "out => 8\n");
         Edges.edge(45, "its hymns, with a space between two || Returns the length of the output", """
@@ -806,7 +877,7 @@ final class QueryEdges {
     }
 
     private static void outputByte() {
-        Edges.edge(46, "`index`: the index, from 0 || Returns the byte; NONE if there is none", "outputByte(0) | outputByte(-1) | outputByte(1) | outputByte(" + GREATEST
+        Edges.edge(46, "Returns a byte of the output || `index`: the index, from 0 || Returns the byte; NONE if there is none", "outputByte(0) | outputByte(-1) | outputByte(1) | outputByte(" + GREATEST
             + ") | outputByte(" + LEAST + ") => -1\nload board 6 6 6 => 0\nwrite() => 71\noutputByte(0) | outputByte(70) => 46\n"
             + "outputByte(-1) | outputByte(71) | outputByte(72) | outputByte(80) | outputByte(" + GREATEST + ") | outputByte(" + LEAST
             + ") => -1\n");

@@ -38,7 +38,7 @@ final class SectionEdges {
             card(11, 2) => 3
             card(12, 2) => throws.IndexOutOfBoundsException
             """);
-        Edges.edge(36, "a FRONT (a digit 0 to 9), perhaps a BACK (a digit), and a COUNT (0 to 60)", """
+        Edges.edge(36, "each a sort with a FRONT (a digit 0 to 9), perhaps a BACK (a digit), and a COUNT (0 to 60)", """
             addCard(0, 0, 0) => 0
             addCard(9, 9, 60) => 1
             addCard(0, -1, 60) => 2
@@ -204,8 +204,8 @@ final class SectionEdges {
             hung(0, 0) => 1
             hung(0, 5) => 999
             """);
-        Edges.edge(29, "A hymn (1 to 999) that hangs in a row has its last digit in column 2, the one ahead of it in column 1", """
-            load board 3; card 7 1; card 2 2; card 5 2; service 7 25 52 => 1
+        Edges.edge(29, "A hymn (1 to 999) that hangs in a row has its last digit in column 2, the one ahead of it in column 1, and so on", """
+            load board 3; card 7 1; card 2 2; card 5 2; service 7 25 52; service 572 => 2
             hang(0) => 5
             place(0, 0, 2, 0) => 7
             place(0, 1, 1, 0) => 2
@@ -213,6 +213,10 @@ final class SectionEdges {
             place(0, 2, 1, 0) => 5
             place(0, 2, 2, 0) => 2
             place(0, 2, 0, 0) => -1
+            hang(1) => 8
+            place(0, 0, 0, 0) => 5
+            place(0, 0, 1, 0) => 7
+            place(0, 0, 2, 0) => 2
             """);
     }
 
@@ -269,7 +273,7 @@ final class SectionEdges {
     }
 
     private static void hangingRows() {
-        Edges.edge(29, "all cards that hang come down", """
+        Edges.edge(29, "When a service is hung, all cards that hang come down", """
             load board 3; card 1 3; service 1 1 1; service 1; service 2 => 3
             hang(0) => 3
             card(0, 3) => 3
@@ -281,7 +285,21 @@ final class SectionEdges {
             hung(0, 0) => -1
             hang(0) => 3
             """);
-        Edges.edge(29, "a row is hung if all its digits, together with the digits of all rows that were hung ahead of it, can be shown", """
+        Edges.edge(29, "and the rows are gone through by boards and rows", """
+            load board 1 2; card 1 back 2 1; card 1 1; service 1 2; service 2 1; service 11 2 => 3
+            hang(0) => 2
+            write() => 11
+            out => ..1 ..1/...
+            hang(1) => 4
+            write() => 11
+            out => ..2 .../..1
+            size(13) => 2
+            hang(2) => 4
+            write() => 11
+            out => .11 .../...
+            """);
+        Edges.edge(29, "a row is hung if all its digits, together with the digits of all rows that were hung ahead of it, "
+            + "can be shown at the same time by different cards of those that there are", """
             load board 2; card 1 2; card 2 1; friend 1 0 1 0 0 0 0 0 0 0 0; service 12 11 => 1
             hang(0) => 2
             hung(0, 0) => 12
@@ -321,7 +339,8 @@ final class SectionEdges {
     }
 
     private static void hangingCards() {
-        Edges.edge(29, "gets the card with the lowest number with which all places behind it can still be shown", """
+        Edges.edge(29, "Then each place of the rows that are hung, by places, gets the card with the lowest number "
+            + "with which all places behind it can still be shown by different cards that are left", """
             load board 1 1 split; card 1 back 2 1; card 1 1; card 2 0; service 1 2; service 1 1; service 1 => 3
             hang(0) => 2
             place(0, 0, 2, 1) => 1
@@ -384,7 +403,8 @@ final class SectionEdges {
     }
 
     private static void work() {
-        Edges.edge(29, "for each place of the boards whose digit is another one than ahead of hanging (or none ahead or behind)", """
+        Edges.edge(29, "The WORK of hanging is, for each place of the boards whose digit is another one than ahead of hanging "
+            + "(or none ahead or behind), 1 for a digit that was there and 1 for one that is there", """
             load board 1; card 1 1; card 2 2; service 1; service 2; service 22; service 3; service 21 => 5
             hang(0) => 1
             hang(1) => 2

@@ -10,17 +10,13 @@ import java.util.regex.Pattern;
 final class Sentences {
     private static final Path DOCUMENT = Path.of("../shared/DOC.md");
     private static final int TERMS = 0;
-    /** Clauses that name no boundary case: headings, what is told of all calls, what a clause behind it tells. */
-    private static final Set<String> WITHOUT_EDGE = Set.of("Cards", "Boards", "Hanging", "Descriptions", "Actions and errors",
-        "the first one is", "the others are", "what later calls answer is free",
-        "All numbers are integers, if nothing else is told", "Returns the number", "Returns the service", "Returns a number",
-        "Returns a number of a card", "Returns in which way a card can show a digit", "Returns a number of a loan",
-        "Returns how many rows a board has", "Returns a hymn of a service", "Returns what is at a place",
-        "Returns the hymn that was hung in a row", "Returns a byte of the output");
-    /** Arguments whose boundary is told by the clause that throws, and what the class is. */
-    private static final Pattern ANY = Pattern.compile("- \\w+: (a service|a friend|a board|a loan|the bytes|whether .*)"
-        + "|Boards in a church that show .*");
-    private static final Pattern SIGNATURE = Pattern.compile("^(int|long|double|float|boolean) \\w+\\([^)]*\\)[^:]*: ");
+    /** What no test of a call can hold: headings, what the class is, and what is free. */
+    private static final Set<String> WITHOUT_TEST = Set.of("1. Cards", "2. Boards", "3. Hanging", "4. Descriptions",
+        "5. Actions and errors", "the first one is", "the others are", "The constants", "what later calls answer is free",
+        "All numbers are integers, if nothing else is told");
+    private static final String WHAT_IT_IS = "Boards in a church that show the numbers of hymns";
+    /** FaceTest holds these. */
+    private static final Pattern SIGNATURE = Pattern.compile("^((int|long|double|float|boolean) )?\\w+\\([^)]*\\)[^:]*: ");
 
     private Sentences() { }
 
@@ -61,25 +57,34 @@ final class Sentences {
         parts.forEach(Sentences::lookForTests);
     }
 
+    /** Each run of words that no test names must be one of those that no test can hold. */
     private static void lookForTests(int part, StringBuilder text) {
         for (String line : text.toString().split("\n")) {
-            for (String clause : SIGNATURE.matcher(line).replaceFirst("").split("[.;] |[.;]$")) {
-                String words = clause.strip().replaceFirst("^- ", "");
-                if (!words.isEmpty() && !WITHOUT_EDGE.contains(words) && !ANY.matcher(line).matches()) {
-                    Script.due((part == TERMS ? "terms" : "promise " + part) + ": \"" + words + "\" is named by a test",
-                        isNamed(part, words), true);
+            String words = SIGNATURE.matcher(line).replaceFirst("");
+            if (words.startsWith(WHAT_IT_IS)) {
+                continue;
+            }
+            for (String unnamed : withoutNamed(part, words).split("\n")) {
+                String rest = unnamed.replaceAll("^\\W+|\\W+$", "");
+                if (!rest.isEmpty() && !WITHOUT_TEST.contains(rest)) {
+                    Script.due((part == TERMS ? "terms" : "promise " + part) + ": \"" + rest + "\" is named by a test", false, true);
                 }
             }
+            Script.due("line of the document was looked through", true, true);
         }
     }
 
-    private static boolean isNamed(int part, String clause) {
+    /** What is left of a line, with a line break in place of each sign that a test names. */
+    private static String withoutNamed(int part, String line) {
+        StringBuilder left = new StringBuilder(line);
         for (Edges.Named named : Edges.NAMED) {
             String sentence = plain(named.sentence());
-            if ((part == TERMS || named.promise() == part) && (clause.contains(sentence) || sentence.contains(clause))) {
-                return true;
+            for (int at = line.indexOf(sentence); at >= 0; at = line.indexOf(sentence, at + 1)) {
+                if (part == TERMS || named.promise() == part) {
+                    left.replace(at, at + sentence.length(), "\n".repeat(sentence.length()));
+                }
             }
         }
-        return false;
+        return left.toString();
     }
 }
