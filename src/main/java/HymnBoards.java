@@ -1514,11 +1514,11 @@ public final class HymnBoards {
         }
 
         private static boolean isLetter(int oneByte) {
-            return within(oneByte, 'a', 'z');
+            return oneByte >= 'a' && oneByte <= 'z';
         }
 
         private static boolean isDigit(int oneByte) {
-            return within(oneByte, '0', '9');
+            return oneByte >= '0' && oneByte <= '9';
         }
     }
 }
