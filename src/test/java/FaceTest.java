@@ -30,7 +30,10 @@ public final class FaceTest {
         "float turned()", "int write()", "int writeService(int)" + INDEX, "int outputByte(int)", "int undo()",
         "int saveSnapshot(int)" + ARGUMENT, "int restoreSnapshot(int)" + ARGUMENT);
 
-    public static void main(String[] args) throws IOException {
+    private static final Set<String> CONSTANTS = Set.of("public static final int NONE = -1", "public static final int FULL = -2",
+        "public static final int WRONG = -3");
+
+    public static void main(String[] args) throws IOException, IllegalAccessException {
         Set<String> found = new TreeSet<>();
         for (Method method : HymnBoards.class.getDeclaredMethods()) {
             if (Modifier.isPublic(method.getModifiers())) {
@@ -62,30 +65,22 @@ public final class FaceTest {
         Script.due("its public constructors", HymnBoards.class.getConstructors().length, 1);
     }
 
-    private static void constants() {
+    private static void constants() throws IllegalAccessException {
         Set<String> found = new TreeSet<>();
         for (Field field : HymnBoards.class.getFields()) {
-            found.add(field.toString());
+            found.add(Modifier.toString(field.getModifiers()) + " " + field.getType() + " " + field.getName() + " = " + field.get(null));
         }
-        Script.due("the constants", found, new TreeSet<>(Set.of("public static final int HymnBoards.NONE",
-            "public static final int HymnBoards.FULL", "public static final int HymnBoards.WRONG")));
-        Script.due("NONE", HymnBoards.NONE, -1);
-        Script.due("FULL", HymnBoards.FULL, -2);
-        Script.due("WRONG", HymnBoards.WRONG, -3);
+        Script.due("the constants", found, new TreeSet<>(CONSTANTS));
     }
 
     private static void constantsInDocument() throws IOException {
         Set<String> found = new TreeSet<>();
-        Set<String> due = new TreeSet<>();
         for (String line : Files.readAllLines(DOCUMENT)) {
-            if (line.startsWith("    public static final int ")) {
-                found.add(line.strip().replace("public static final int ", "").replace(";", ""));
+            if (line.startsWith("    public static ")) {
+                found.add(line.strip().replace(";", ""));
             }
         }
-        due.add("NONE = " + HymnBoards.NONE);
-        due.add("FULL = " + HymnBoards.FULL);
-        due.add("WRONG = " + HymnBoards.WRONG);
-        Script.due("the document's constants", found, due);
+        Script.due("the document's constants", found, new TreeSet<>(CONSTANTS));
     }
 
     /** The method under the heading of each promise, from 1 on. */
